@@ -1,0 +1,210 @@
+import java.util.NoSuchElementException;
+import java.util.Random;
+
+/** Lets the class and the model do the same calls, drawn from fixed seeds, and compares every answer. */
+public final class RandomRuns {
+    private interface Call {
+        long answer();
+    }
+
+    private static final int[] KEY_RANGES = {6, 15, 40, 100};
+    private static int wrong;
+    private static long compared;
+
+    private final StratumLedge real = new StratumLedge();
+    private final Model model = new Model();
+    private final Random random;
+    private final int keys;
+    private final int style;
+    private final StringBuilder story = new StringBuilder();
+    private boolean failed;
+
+    private RandomRuns(int seed) {
+        random = new Random(seed * 1000003L);
+        style = seed % 4;
+        keys = style == 3 ? 100 : KEY_RANGES[seed / 4 % KEY_RANGES.length];
+    }
+
+    public static void main(String[] args) {
+        int runs = args.length > 0 ? Integer.parseInt(args[0]) : 120;
+        int calls = args.length > 1 ? Integer.parseInt(args[1]) : 512;
+        for (int seed = 0; seed < runs && wrong < 5; seed++) {
+            new RandomRuns(seed).go(seed, calls);
+        }
+        System.out.println("RandomRuns: " + compared + " answers compared, " + wrong + " runs with a wrong one");
+        if (wrong != 0) System.exit(1);
+    }
+
+    private static String outcome(Call call) {
+        try {
+            return Long.toString(call.answer());
+        } catch (IllegalStateException | IllegalArgumentException | IndexOutOfBoundsException | ArithmeticException
+                | NoSuchElementException e) {
+            return e.getClass().getSimpleName();
+        }
+    }
+
+    private void same(String text, Call one, Call two) {
+        compared++;
+        String got = outcome(one), want = outcome(two);
+        story.append(text).append(" = ").append(want).append('\n');
+        if (!got.equals(want) && !failed) {
+            failed = true;
+            wrong++;
+            System.out.println(story + "... but the class answered " + got);
+        }
+    }
+
+    private int key() {
+        return random.nextInt(40) == 0 ? random.nextInt(5) * 50 - 50 : random.nextInt(keys);
+    }
+
+    private int family() {
+        if (style == 3 && random.nextInt(10) > 0) return 0;
+        return random.nextInt(60) == 0 ? random.nextInt(7) - 2 : random.nextInt(Math.max(1, model.fams.size()));
+    }
+
+    private int snap() {
+        int draw = random.nextInt(10);
+        if (draw < 5 || model.snaps.isEmpty()) return draw == 9 ? random.nextInt(9) - 3 : -1;
+        return model.snapCount - 1 - random.nextInt(Math.min(7, model.snapCount));
+    }
+
+    private int cursor() {
+        return model.cursorCount == 0 || random.nextInt(20) == 0 ? random.nextInt(5) - 2
+                : model.cursorCount - 1 - random.nextInt(Math.min(5, model.cursorCount));
+    }
+
+    private void go(int seed, int calls) {
+        story.append("seed ").append(seed).append('\n');
+        for (int i = 0; i < calls && !failed; i++) {
+            if (i < 2 || random.nextInt(60) == 0) addFamily();
+            else if (random.nextInt(100) < (style == 3 ? 65 : 55)) write();
+            else if (random.nextInt(100) < (style == 3 ? 85 : 35)) tend();
+            else if (random.nextInt(100) < 55) read();
+            else rare();
+            if (i % 8 == 0) compareAll();
+        }
+        compareAll();
+    }
+
+    private void addFamily() {
+        char operator = "+><?".charAt(random.nextInt(4));
+        same("addFamily " + operator, () -> real.addFamily(operator), () -> model.addFamily(operator));
+    }
+
+    private void write() {
+        int f = family(), k = key(), to = random.nextInt(30) == 0 ? key() : Math.min(99, k + random.nextInt(1 + keys / 2));
+        int v = random.nextInt(9) == 0 ? Integer.MAX_VALUE - random.nextInt(3) : random.nextInt(40) - 20;
+        int draw = random.nextInt(20);
+        if (draw < 8) same("put " + f + " " + k + " " + v, () -> real.put(f, k, v), () -> model.log(f, 'p', k, k, v));
+        else if (draw < 11) same("delete " + f + " " + k, () -> real.delete(f, k), () -> model.log(f, 'd', k, k, 0));
+        else if (draw < 13) {
+            same("deleteRange " + f + " " + k + " " + to, () -> real.deleteRange(f, k, to), () -> model.log(f, 'r', k, to, 0));
+        } else if (draw < 18) {
+            same("merge " + f + " " + k + " " + v, () -> real.merge(f, k, v), () -> model.log(f, 'm', k, k, v));
+        } else {
+            int step = random.nextInt(20) == 0 ? random.nextInt(24) - 1 : 1 + random.nextInt(5);
+            int last = random.nextInt(20) == 0 ? key() : Math.min(99, k + random.nextInt(1 + Math.max(1, Math.min(keys, step * 10))));
+            same("bringIn " + f + " " + k + " " + last + " " + step + " " + v, () -> real.bringIn(f, k, last, step, v),
+                    () -> model.bringIn(f, k, last, step, v));
+        }
+    }
+
+    private void tend() {
+        int f = family();
+        int draw = style == 3 ? random.nextInt(14) + 2 : random.nextInt(style == 0 ? 12 : 20);
+        int steps = random.nextInt(30) == 0 ? random.nextInt(2) * 51 : style == 3 ? 50 : random.nextInt(style == 1 ? 50 : 8) + 1;
+        if (draw < 2) same("flush " + f, () -> real.flush(f), () -> model.flush(f));
+        else if (draw < 7) same("compact " + f, () -> real.compact(f), () -> model.compact(f));
+        else if (draw == 7 && random.nextInt(3) == 0) same("stop", () -> real.stop(), () -> model.stop());
+        else same("work " + steps, () -> real.work(steps), () -> model.work(steps));
+    }
+
+    private void read() {
+        int f = family(), k = key(), s = snap(), c = cursor();
+        int draw = random.nextInt(16);
+        if (draw < 4) same("get " + f + " " + k + " " + s, () -> real.get(f, k, s), () -> model.get(f, k, s));
+        else if (draw < 6) same("getAnew " + f + " " + k + " " + s, () -> real.getAnew(f, k, s), () -> model.getAnew(f, k, s));
+        else if (draw < 7) same("snapshot", () -> real.snapshot(), () -> model.snapshot());
+        else if (draw < 8) same("release " + s, () -> real.release(s), () -> model.release(s));
+        else if (draw < 10) same("open " + f + " " + s, () -> real.open(f, s), () -> model.open(f, s));
+        else if (draw < 12) same("next " + c, () -> real.next(c), () -> model.move(c, 1));
+        else if (draw < 13) same("previous " + c, () -> real.previous(c), () -> model.move(c, -1));
+        else if (draw < 15) same("value " + c, () -> real.value(c), () -> model.value(c));
+        else same("close " + c, () -> real.close(c), () -> model.close(c));
+    }
+
+    private void rare() {
+        int b = random.nextInt(4) - (random.nextInt(5) == 0 ? 1 : 0), o = random.nextInt(4) - (random.nextInt(9) == 0 ? 1 : 0);
+        int draw = random.nextInt(style == 2 ? 12 : 40);
+        if (draw < 4) same("sync", () -> real.sync(), () -> model.sync());
+        else if (draw < 6) same("crash", () -> real.crash(), () -> model.crash());
+        else if (draw < 8) same("backup", () -> real.backup(), () -> model.backup());
+        else if (draw < 9) same("restore " + b, () -> real.restore(b), () -> model.restore(b));
+        else if (draw < 12) same("shared " + b + " " + o, () -> real.shared(b, o), () -> model.shared(b, o));
+    }
+
+    private void compareAll() {
+        int mark = story.length();
+        same("lastNumber", () -> real.lastNumber(), () -> model.lastNumber());
+        same("isMerging", () -> real.isMerging() ? 1 : 0, () -> model.merg != null ? 1 : 0);
+        same("log", () -> real.log(), () -> model.log.size());
+        same("version", () -> real.version(), () -> model.version);
+        same("blocks", () -> real.blocks(), () -> model.blocks);
+        same("asked", () -> real.asked(), () -> model.asked);
+        same("falsePasses", () -> real.falsePasses(), () -> model.falsePasses);
+        same("slowed", () -> real.slowed(), () -> model.slowed);
+        same("dropped", () -> real.dropped(), () -> model.dropped);
+        same("falseShare", () -> Float.floatToIntBits(real.falseShare()), () -> Float.floatToIntBits(model.falseShare()));
+        same("amplification", () -> Double.doubleToLongBits(real.amplification()),
+                () -> Double.doubleToLongBits(model.amplification()));
+        same("amplificationBits", () -> real.amplificationBits(), () -> Double.doubleToLongBits(model.amplification()));
+        same("isSound", () -> real.isSound() ? 1 : 0, () -> model.isSound() ? 1 : 0);
+        for (int family = -1; family <= 3; family++) compareFamily(family);
+        if (!failed) story.setLength(mark);
+    }
+
+    private void compareFamily(int f) {
+        same("inMemory " + f, () -> real.inMemory(f), () -> model.fam(f).memory.size());
+        for (int level = -1; level <= 4; level++) {
+            int l = level;
+            same("runs " + f + l, () -> real.runs(f, l), () -> model.level(f, l).size());
+            same("debt " + f + l, () -> Float.floatToIntBits(real.debt(f, l)), () -> Float.floatToIntBits(model.debt(f, l)));
+            same("debtBits " + f + l, () -> real.debtBits(f, l), () -> Float.floatToIntBits(model.debt(f, l)));
+            int count = f >= 0 && f < model.fams.size() && l >= 0 && l < 4 ? model.level(f, l).size() : 0;
+            for (int index = -1; index <= count; index++) compareRun(f, l, index);
+        }
+        if (f < 0 || f >= model.fams.size()) return;
+        for (int key = 0; key < 100; key++) {
+            int k = key;
+            same("getAnew " + f + " " + k, () -> real.getAnew(f, k, -1), () -> model.getAnew(f, k, -1));
+        }
+        for (int s : model.snaps.keySet()) {
+            for (int key = 0; key < Math.min(100, keys + 3); key++) {
+                int k = key;
+                same("getAnew " + f + " " + k + " " + s, () -> real.getAnew(f, k, s), () -> model.getAnew(f, k, s));
+                if (random.nextInt(16) == 0) {
+                    same("get " + f + " " + k + " " + s, () -> real.get(f, k, s), () -> model.get(f, k, s));
+                    same("get at " + s + " both ways", () -> model.get(f, k, s), () -> model.getAnew(f, k, s));
+                    same("get again", () -> real.get(f, k, s), () -> model.getAnew(f, k, s));
+                }
+            }
+        }
+    }
+
+    private void compareRun(int f, int l, int i) {
+        String at = f + " " + l + " " + i;
+        same("file " + at, () -> real.file(f, l, i), () -> model.run(f, l, i).file);
+        same("entries " + at, () -> real.entries(f, l, i), () -> model.run(f, l, i).es.size());
+        same("ranges " + at, () -> real.ranges(f, l, i), () -> model.run(f, l, i).rs.size());
+        same("least " + at, () -> real.bound(f, l, i, false), () -> model.run(f, l, i).low());
+        same("greatest " + at, () -> real.bound(f, l, i, true), () -> model.run(f, l, i).high());
+        int k = random.nextInt(104) - 2;
+        same("passes " + at + " " + k, () -> real.passes(f, l, i, k) ? 1 : 0, () -> {
+            Model.Run run = model.run(f, l, i);
+            Model.keyOk(Model.isKey(k));
+            return run.filter(k) ? 1 : 0;
+        });
+    }
+}

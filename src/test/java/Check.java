@@ -28,15 +28,22 @@ final class Check {
         }
     }
 
-    /** The call throws this very class, not one below it. */
+    /** The call throws this very class, not one below it, and by a throw of its own. */
     void fails(String what, Class<?> want, Call call) {
         Object got;
         try {
             got = call.answer();
         } catch (RuntimeException e) {
-            got = e.getClass();
+            got = isThrownByClass(e) ? e.getClass() : e + " of the machine";
         }
         same(what, got, want);
+    }
+
+    /** Whether the class itself threw it, and neither the machine nor the library did so. */
+    static boolean isThrownByClass(RuntimeException e) {
+        StackTraceElement[] trace = e.getStackTrace();
+        return trace.length > 0 && trace[0].getClassName().equals("StratumLedge") && e.getMessage() != null
+                && !e.getMessage().startsWith("Index ");
     }
 
     void end() {

@@ -210,15 +210,19 @@ public final class LogTest {
         CHECK.fails("37: 0, 3", Check.INDEX, () -> x.shared(0, 3));
         CHECK.fails("37: -1, 0", Check.INDEX, () -> x.shared(-1, 0));
         CHECK.fails("37: 0, -1", Check.INDEX, () -> x.shared(0, -1));
-        CHECK.same("37: a moved run is shared, too", movedRun(), 1);
+        CHECK.same("37: with more families", laterFamily(), 1);
     }
 
-    private static int movedRun() {
+    private static int laterFamily() {
         StratumLedge x = Check.tree('+');
         x.bringIn(0, 1, 5, 1, 1);
         x.backup();
         x.bringIn(0, 1, 5, 1, 1);
+        x.addFamily('+');
+        x.bringIn(1, 1, 5, 1, 1);
         x.backup();
+        CHECK.same("37: with fewer families", x.shared(1, 0), 1);
+        CHECK.same("37: of both families", x.shared(1, 1), 3);
         return x.shared(0, 1);
     }
 

@@ -53,6 +53,15 @@ public final class ReadingTest {
         counts(y, "9: the blocks with this key", 1, 2, 0);
         CHECK.same("9: in the first block", y.get(0, 3, -1), 3);
         counts(y, "9: one more block", 2, 3, 0);
+        StratumLedge z = Check.tree('+');
+        for (int key = 1; key <= 3; key++) {
+            z.put(0, key, key);
+        }
+        z.put(0, 4, 4);
+        z.merge(0, 4, 4);
+        z.flush(0);
+        CHECK.same("9: the fourth entry and the fifth", z.get(0, 4, -1), 8);
+        counts(z, "9: are in two blocks", 1, 2, 0);
     }
 
     private static void getLooksNoFurther() {
@@ -128,6 +137,7 @@ public final class ReadingTest {
             CHECK.same("11: number", x.snapshot(), i);
         }
         CHECK.fails("11: six are held", Check.STATE, () -> x.snapshot());
+        CHECK.same("7: brought in behind them", x.bringIn(0, 1, 1, 1, 9) + x.get(0, 1, 5), 5);
         x.put(0, 1, 6);
         for (int i = 0; i < 6; i++) {
             CHECK.same("11: moment " + i, x.get(0, 1, i), i);
@@ -247,6 +257,7 @@ public final class ReadingTest {
         int c = x.open(0, -1);
         CHECK.fails("16: ahead of the first", Check.MISSING, () -> x.value(c));
         x.next(c);
+        CHECK.fails("9: another key", Check.MISSING, () -> x.get(0, 5, -1));
         CHECK.same("16: at a key", x.value(c), 8);
         CHECK.same("16: again", x.value(c), 8);
         x.put(0, 4, 100);

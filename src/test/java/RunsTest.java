@@ -19,6 +19,7 @@ public final class RunsTest {
         newRuns();
         chargesOfRuns();
         turnsOfRuns();
+        turnsByLeastBounds();
         turnsBehindCrashAndRestore();
         level0GrowsMeanwhile();
         toTheLastLevel();
@@ -380,6 +381,16 @@ public final class RunsTest {
         z.work(50);
         CHECK.same("29: levels below the next one count", Check.shape(z, 0, 1), "#7:3+0[1-9]");
         CHECK.fails("29: a deleted key stays away", Check.MISSING, () -> z.get(0, 1, -1));
+        StratumLedge w = Check.tree('+');
+        Check.fill(w, 0, 1, 3);
+        w.compact(0);
+        w.work(50);
+        w.delete(0, 1);
+        w.flush(0);
+        Check.fill(w, 0, 2, 2);
+        w.compact(0);
+        w.work(50);
+        CHECK.same("29: the next level itself does not count", Check.shape(w, 0, 1), "#8:1+0[2-2]");
     }
 
     private static void rangesOfMergings() {
@@ -489,6 +500,18 @@ public final class RunsTest {
         x.work(50);
         CHECK.same("28: its own turn", x.bound(0, 2, 0, false), 6);
         CHECK.same("28: sound", x.isSound(), true);
+    }
+
+    private static void turnsByLeastBounds() {
+        StratumLedge x = Check.tree('+');
+        stack(x, 0, 9);
+        stack(x, 20, 29);
+        x.compact(0);
+        x.work(50);
+        CHECK.same("7: at the bound of the merged run", x.bringIn(0, 9, 12, 1, 4), 1);
+        x.compact(0);
+        x.work(50);
+        CHECK.same("28: its least bound is not greater", Check.shape(x, 0, 1), "#9:4+0[9-12]");
     }
 
     private static void turnsBehindCrashAndRestore() {

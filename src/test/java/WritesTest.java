@@ -257,6 +257,33 @@ public final class WritesTest {
         y.stop();
         CHECK.same("7: until it is stopped", y.bringIn(0, 35, 36, 1, 9), 1);
         CHECK.same("7: sound", x.isSound() && y.isSound(), true);
+        CHECK.same("7: up to their least bound", besideMerging(5, 10), 0);
+        CHECK.same("7: ahead of it", besideMerging(5, 9), 3);
+        CHECK.same("7: from their greatest bound on", besideMerging(40, 45), 0);
+        CHECK.same("7: behind it", besideMerging(41, 45), 3);
+        StratumLedge z = Check.tree('+');
+        z.bringIn(0, 10, 30, 20, 1);
+        z.bringIn(0, 40, 60, 20, 1);
+        z.bringIn(0, 25, 25 + 5 * 4, 5, 1);
+        for (int first = 70; first < 90; first += 10) {
+            z.bringIn(0, first, first + 9, 1, 1);
+            z.bringIn(0, first, first + 9, 1, 2);
+        }
+        CHECK.same("7: works on level 2", z.compact(0), 2);
+        CHECK.same("7: level 1 is free of them", z.bringIn(0, 12, 13, 1, 2), 1);
+        z.stop();
+        CHECK.same("7: level 2 is, too, when it is stopped", z.bringIn(0, 15, 16, 1, 2), 2);
+    }
+
+    /** Works on level 1, the inputs of level 2 going from 10 to 40; where a run goes that is brought in. */
+    private static int besideMerging(int first, int last) {
+        StratumLedge x = Check.tree('+');
+        x.bringIn(0, 15, 35, 20, 1);
+        x.bringIn(0, 10, 20, 10, 1);
+        x.bringIn(0, 29, 40, 11, 1);
+        x.bringIn(0, 20, 29, 1, 3);
+        x.compact(0);
+        return x.bringIn(0, first, last, 1, 1);
     }
 
     private static void slowedWrites() {

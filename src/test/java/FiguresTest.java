@@ -1,19 +1,12 @@
-import java.lang.reflect.Constructor;
-import java.lang.reflect.Field;
-import java.util.ArrayList;
-import java.util.Collections;
-import java.util.List;
-
 /** Promises 39 to 47. */
 public final class FiguresTest {
     private static final Check CHECK = new Check("FiguresTest");
 
-    public static void main(String[] args) throws ReflectiveOperationException {
+    public static void main(String[] args) {
         shares();
         amplification();
         figuresGoOn();
         isSound();
-        isNotSound();
         CHECK.end();
     }
 
@@ -108,57 +101,5 @@ public final class FiguresTest {
         CHECK.same("47: with memory", x.isSound(), true);
         x.crash();
         CHECK.same("47: behind a crash", x.isSound(), true);
-    }
-
-    // No calls make an unsound tree, so these reach into the object.
-
-    private static Object part(Object whole, String name) throws ReflectiveOperationException {
-        Field field = whole.getClass().getDeclaredField(name);
-        field.setAccessible(true);
-        return field.get(whole);
-    }
-
-    @SuppressWarnings("unchecked")
-    private static List<Object> runsOf(StratumLedge x, int level) throws ReflectiveOperationException {
-        Object family = ((List<Object>) part(x, "families")).get(0);
-        return (List<Object>) part(((Object[]) part(family, "levels"))[level], "list");
-    }
-
-    private static void isNotSound() throws ReflectiveOperationException {
-        StratumLedge x = Check.tree('+');
-        x.bringIn(0, 0, 9, 1, 1);
-        x.bringIn(0, 10, 19, 1, 1);
-        List<Object> runs = runsOf(x, 3);
-        Collections.reverse(runs);
-        CHECK.same("47: bounds fall", x.isSound(), false);
-        Collections.reverse(runs);
-        CHECK.same("47: bounds rise", x.isSound(), true);
-        runs.add(runs.get(1));
-        CHECK.same("47: bounds overlap", x.isSound(), false);
-        runs.remove(2);
-        runs.add(1, asMerged(x.bringIn(0, 20, 29, 1, 1) == 3 ? runs.remove(2) : null));
-        Collections.swap(runs, 1, 2);
-        CHECK.same("47: a merged run is too large", x.isSound(), false);
-        runs.remove(2);
-        CHECK.same("47: a run is missing", x.isSound(), false);
-        StratumLedge y = Check.tree('+');
-        y.bringIn(0, 0, 9, 1, 1);
-        y.bringIn(0, 9, 9, 1, 2);
-        CHECK.same("47: sound", y.isSound(), true);
-        runsOf(y, 2).clear();
-        CHECK.same("47: another value by looking", y.isSound(), false);
-        StratumLedge z = Check.tree('+');
-        z.bringIn(0, 0, 9, 1, 1);
-        z.bringIn(0, 9, 10, 1, 1);
-        runsOf(z, 1).add(runsOf(z, 3).get(0));
-        runsOf(z, 1).add(runsOf(z, 2).get(0));
-        CHECK.same("47: bounds meet in a key", z.isSound(), false);
-    }
-
-    private static Object asMerged(Object run) throws ReflectiveOperationException {
-        Constructor<?> maker = run.getClass().getDeclaredConstructor(int.class, boolean.class, ArrayList.class,
-                ArrayList.class);
-        maker.setAccessible(true);
-        return maker.newInstance(part(run, "id"), true, part(run, "rows"), part(run, "spans"));
     }
 }

@@ -1,12 +1,16 @@
 import java.util.NoSuchElementException;
 import java.util.Random;
 
-/** Lets the class and the model do the same calls, drawn from fixed seeds, and compares every answer. */
+/**
+ * Lets the class and the model do the same calls, drawn from fixed seeds, and compares every answer. No object gets
+ * more than its 512 calls: some of them are spent on looking around as the run goes on, and what is left at its end.
+ */
 public final class RandomRuns {
     private interface Call {
         long answer();
     }
 
+    private static final int MOST_CALLS = 512;
     private static final int[] KEY_RANGES = {6, 15, 40, 100};
     private static int wrong;
     private static long compared;
@@ -17,6 +21,7 @@ public final class RandomRuns {
     private final int keys;
     private final int style;
     private final StringBuilder story = new StringBuilder();
+    private int calls;
     private boolean failed;
 
     private RandomRuns(int seed) {
@@ -26,10 +31,9 @@ public final class RandomRuns {
     }
 
     public static void main(String[] args) {
-        int runs = args.length > 0 ? Integer.parseInt(args[0]) : 120;
-        int calls = args.length > 1 ? Integer.parseInt(args[1]) : 512;
+        int runs = args.length > 0 ? Integer.parseInt(args[0]) : 4000;
         for (int seed = 0; seed < runs && wrong < 5; seed++) {
-            new RandomRuns(seed).go(seed, calls);
+            new RandomRuns(seed).go(seed);
         }
         System.out.println("RandomRuns: " + compared + " answers compared, " + wrong + " runs with a wrong one");
         if (wrong != 0) System.exit(1);
@@ -44,11 +48,14 @@ public final class RandomRuns {
         }
     }
 
+    /** One call of each, if the object has one left. */
     private void same(String text, Call one, Call two) {
+        if (failed || calls >= MOST_CALLS) return;
+        calls++;
         compared++;
         String got = outcome(one, true), want = outcome(two, false);
         story.append(text).append(" = ").append(want).append('\n');
-        if (!got.equals(want) && !failed) {
+        if (!got.equals(want)) {
             failed = true;
             wrong++;
             System.out.println(story + "... but the class answered " + got);
@@ -75,17 +82,28 @@ public final class RandomRuns {
                 : model.cursorCount - 1 - random.nextInt(Math.min(5, model.cursorCount));
     }
 
-    private void go(int seed, int calls) {
+    private void go(int seed) {
         story.append("seed ").append(seed).append('\n');
-        for (int i = 0; i < calls && !failed; i++) {
+        int acts = 60 + random.nextInt(340);
+        for (int i = 0; i < acts; i++) {
             if (i < 2 || random.nextInt(60) == 0) addFamily();
             else if (random.nextInt(100) < (style == 3 ? 65 : 55)) write();
             else if (random.nextInt(100) < (style == 3 ? 85 : 35)) tend();
             else if (random.nextInt(100) < 55) read();
             else rare();
-            if (i % 8 == 0) compareAll();
+            if (random.nextInt(4) == 0) lookAround();
         }
-        compareAll();
+        while (!failed && calls < MOST_CALLS) lookAround();
+    }
+
+    private void lookAround() {
+        int f = family(), level = random.nextInt(30) == 0 ? random.nextInt(3) * 5 - 1 : random.nextInt(4);
+        int draw = random.nextInt(20);
+        if (draw < 5) figure(random.nextInt(13));
+        else if (draw < 7) same("inMemory " + f, () -> real.inMemory(f), () -> model.fam(f).memory.size());
+        else if (draw < 11) level(f, level);
+        else if (draw < 15) run(f, level);
+        else valueOf(f);
     }
 
     private void addFamily() {
@@ -145,70 +163,66 @@ public final class RandomRuns {
         else if (draw < 12) same("shared " + b + " " + o, () -> real.shared(b, o), () -> model.shared(b, o));
     }
 
-    private void compareAll() {
-        int mark = story.length();
-        same("lastNumber", () -> real.lastNumber(), () -> model.lastNumber());
-        same("isMerging", () -> real.isMerging() ? 1 : 0, () -> model.merg != null ? 1 : 0);
-        same("log", () -> real.log(), () -> model.log.size());
-        same("version", () -> real.version(), () -> model.version);
-        same("blocks", () -> real.blocks(), () -> model.blocks);
-        same("asked", () -> real.asked(), () -> model.asked);
-        same("falsePasses", () -> real.falsePasses(), () -> model.falsePasses);
-        same("slowed", () -> real.slowed(), () -> model.slowed);
-        same("dropped", () -> real.dropped(), () -> model.dropped);
-        same("falseShare", () -> Float.floatToIntBits(real.falseShare()), () -> Float.floatToIntBits(model.falseShare()));
-        same("amplification", () -> Double.doubleToLongBits(real.amplification()),
-                () -> Double.doubleToLongBits(model.amplification()));
-        same("amplificationBits", () -> real.amplificationBits(), () -> Double.doubleToLongBits(model.amplification()));
-        same("isSound", () -> real.isSound() ? 1 : 0, () -> model.isSound() ? 1 : 0);
-        for (int family = -1; family <= 3; family++) compareFamily(family);
-        if (!failed) story.setLength(mark);
-    }
-
-    private void compareFamily(int f) {
-        same("inMemory " + f, () -> real.inMemory(f), () -> model.fam(f).memory.size());
-        for (int level = -1; level <= 4; level++) {
-            int l = level;
-            same("runs " + f + l, () -> real.runs(f, l), () -> model.level(f, l).size());
-            same("debt " + f + l, () -> Float.floatToIntBits(real.debt(f, l)), () -> Float.floatToIntBits(model.debt(f, l)));
-            same("debtBits " + f + l, () -> real.debtBits(f, l), () -> Float.floatToIntBits(model.debt(f, l)));
-            int count = f >= 0 && f < model.fams.size() && l >= 0 && l < 4 ? model.level(f, l).size() : 0;
-            for (int index = -1; index <= count; index++) compareRun(f, l, index);
-        }
-        if (f < 0 || f >= model.fams.size()) return;
-        for (int key = 0; key < 100; key++) {
-            int k = key;
-            same("getAnew " + f + " " + k, () -> real.getAnew(f, k, -1), () -> model.getAnew(f, k, -1));
-        }
-        for (int s : model.snaps.keySet()) {
-            for (int key = 0; key < Math.min(100, keys + 3); key++) {
-                int k = key;
-                same("getAnew " + f + " " + k + " " + s, () -> real.getAnew(f, k, s), () -> model.getAnew(f, k, s));
-                if (random.nextInt(16) == 0) {
-                    same("get " + f + " " + k + " " + s, () -> real.get(f, k, s), () -> model.get(f, k, s));
-                    same("get at " + s + " again", () -> real.get(f, k, s), () -> {
-                        String looked = outcome(() -> model.get(f, k, s), false);
-                        String anew = outcome(() -> model.getAnew(f, k, s), false);
-                        if (!looked.equals(anew)) throw new UnsupportedOperationException(looked + " or " + anew);
-                        return model.getAnew(f, k, s);
-                    });
-                }
-            }
+    private void figure(int which) {
+        switch (which) {
+            case 0 -> same("lastNumber", () -> real.lastNumber(), () -> model.lastNumber());
+            case 1 -> same("isMerging", () -> real.isMerging() ? 1 : 0, () -> model.merg != null ? 1 : 0);
+            case 2 -> same("log", () -> real.log(), () -> model.log.size());
+            case 3 -> same("version", () -> real.version(), () -> model.version);
+            case 4 -> same("blocks", () -> real.blocks(), () -> model.blocks);
+            case 5 -> same("asked", () -> real.asked(), () -> model.asked);
+            case 6 -> same("falsePasses", () -> real.falsePasses(), () -> model.falsePasses);
+            case 7 -> same("slowed", () -> real.slowed(), () -> model.slowed);
+            case 8 -> same("dropped", () -> real.dropped(), () -> model.dropped);
+            case 9 -> same("falseShare", () -> Float.floatToIntBits(real.falseShare()),
+                    () -> Float.floatToIntBits(model.falseShare()));
+            case 10 -> same("amplification", () -> Double.doubleToLongBits(real.amplification()),
+                    () -> Double.doubleToLongBits(model.amplification()));
+            case 11 -> same("amplificationBits", () -> real.amplificationBits(),
+                    () -> Double.doubleToLongBits(model.amplification()));
+            default -> same("isSound", () -> real.isSound() ? 1 : 0, () -> {
+                if (!model.isSound()) throw new UnsupportedOperationException("calls made the model unsound");
+                return 1;
+            });
         }
     }
 
-    private void compareRun(int f, int l, int i) {
+    private void level(int f, int l) {
+        same("runs " + f + " " + l, () -> real.runs(f, l), () -> model.level(f, l).size());
+        if (random.nextBoolean()) {
+            same("debt " + f + " " + l, () -> Float.floatToIntBits(real.debt(f, l)),
+                    () -> Float.floatToIntBits(model.debt(f, l)));
+        } else {
+            same("debtBits " + f + " " + l, () -> real.debtBits(f, l), () -> Float.floatToIntBits(model.debt(f, l)));
+        }
+    }
+
+    private void run(int f, int l) {
+        boolean isThere = f >= 0 && f < model.fams.size() && l >= 0 && l < 4 && !model.level(f, l).isEmpty();
+        int i = isThere && random.nextInt(30) > 0 ? random.nextInt(model.level(f, l).size()) : random.nextInt(9) - 1;
         String at = f + " " + l + " " + i;
-        same("file " + at, () -> real.file(f, l, i), () -> model.run(f, l, i).file);
+        int k = random.nextInt(104) - 2;
         same("entries " + at, () -> real.entries(f, l, i), () -> model.run(f, l, i).es.size());
-        same("ranges " + at, () -> real.ranges(f, l, i), () -> model.run(f, l, i).rs.size());
         same("least " + at, () -> real.bound(f, l, i, false), () -> model.run(f, l, i).low());
         same("greatest " + at, () -> real.bound(f, l, i, true), () -> model.run(f, l, i).high());
-        int k = random.nextInt(104) - 2;
+        if (random.nextBoolean()) same("file " + at, () -> real.file(f, l, i), () -> model.run(f, l, i).file);
+        else same("ranges " + at, () -> real.ranges(f, l, i), () -> model.run(f, l, i).rs.size());
         same("passes " + at + " " + k, () -> real.passes(f, l, i, k) ? 1 : 0, () -> {
             Model.Run run = model.run(f, l, i);
             Model.keyOk(Model.isKey(k));
             return run.filter(k) ? 1 : 0;
+        });
+    }
+
+    /** The value of a key by one way, or by both, which are the same. */
+    private void valueOf(int f) {
+        int k = key(), s = snap();
+        same("getAnew " + f + " " + k + " " + s, () -> real.getAnew(f, k, s), () -> model.getAnew(f, k, s));
+        if (random.nextInt(3) > 0) return;
+        same("get " + f + " " + k + " " + s, () -> real.get(f, k, s), () -> {
+            String looked = outcome(() -> model.get(f, k, s), false), anew = outcome(() -> model.getAnew(f, k, s), false);
+            if (!looked.equals(anew)) throw new UnsupportedOperationException(looked + " or " + anew);
+            return model.getAnew(f, k, s);
         });
     }
 }

@@ -587,10 +587,13 @@ public final class EdgesOfMergingsTest {
         CHECK.same("sound", y.isSound(), true);
     }
 
-    /** How many range deletes a merging leaves of one above a run of level 3 that goes from 20 to 30. */
-    private static int rangesLeft(int from, int to) {
+    /** How many range deletes a merging leaves of one above a run of level 2 or 3 that goes from 20 to 30. */
+    private static int rangesLeft(int level, int from, int to) {
         StratumLedge x = Check.tree('+');
-        x.bringIn(0, 20, 30, 10, 1);
+        if (level == 2) {
+            x.bringIn(0, 30, 30, 1, 1);
+        }
+        CHECK.same("the level", x.bringIn(0, 20, 30, 10, 1), level);
         x.deleteRange(0, from, to);
         x.flush(0);
         Check.fill(x, 0, 90, 2);
@@ -601,12 +604,22 @@ public final class EdgesOfMergingsTest {
     private static void rangesAboveARunBelow() {
         CHECK.sentence("Terms, Merging", "In the last step, a range delete of the inputs is dropped if no run of a level "
                 + "below the next one has bounds that overlap the range");
-        CHECK.same("up to ahead of its least bound", rangesLeft(0, 19), 0);
-        CHECK.same("up to its least bound", rangesLeft(0, 20), 1);
-        CHECK.same("from its greatest bound on", rangesLeft(30, 40), 1);
-        CHECK.same("from behind its greatest bound on", rangesLeft(31, 40), 0);
-        CHECK.same("between its keys", rangesLeft(25, 25), 1);
-        CHECK.same("all keys", rangesLeft(0, 99), 1);
+        for (int level = 2; level <= 3; level++) {
+            CHECK.same("up to ahead of its least bound", rangesLeft(level, 0, 19), 0);
+            CHECK.same("up to its least bound", rangesLeft(level, 0, 20), 1);
+            CHECK.same("from its greatest bound on", rangesLeft(level, 30, 40), 1);
+            CHECK.same("from behind its greatest bound on", rangesLeft(level, 31, 40), 0);
+            CHECK.same("between its keys", rangesLeft(level, 25, 25), 1);
+            CHECK.same("all keys", rangesLeft(level, 0, 99), 1);
+        }
+        StratumLedge x = Check.tree('+');
+        Check.fill(x, 0, 25, 3);
+        Check.mergeAll(x);
+        x.deleteRange(0, 20, 30);
+        x.flush(0);
+        Check.fill(x, 0, 90, 2);
+        Check.mergeAll(x);
+        CHECK.same("a run of the next level is none below it", Check.shape(x, 0, 1), "#8:1+0[90-90]");
     }
 
     /** How many range deletes a merging leaves of one from 10 to 20, with a put of a key ahead of it or behind it. */

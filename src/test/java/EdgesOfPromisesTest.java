@@ -111,7 +111,9 @@ public final class EdgesOfPromisesTest {
         }
         CHECK.refuses("with 6", Check.STATE, x, () -> write.of(0, 5));
         CHECK.same("with 6 of another family", write.of(1, 5), 11);
-        Check.mergeAll(x);
+        x.compact(0);
+        CHECK.fails("with 6 that are being merged", Check.STATE, () -> write.of(0, 5));
+        x.work(50);
         CHECK.same("with none any more", write.of(0, 5), 12);
         for (int runs = 0; runs < 5; runs++) {
             x.put(0, 5, 1);
@@ -345,6 +347,7 @@ public final class EdgesOfPromisesTest {
         CHECK.refuses("ahead of the first one", Check.MISSING, x, () -> x.value(cursor));
         x.next(cursor);
         x.delete(0, 50);
+        CHECK.fails("another key", Check.MISSING, () -> x.getAnew(0, 51, -1));
         CHECK.same("at a key that is deleted later", x.value(cursor), 7);
         x.next(cursor);
         CHECK.refuses("behind the last one", Check.MISSING, x, () -> x.value(cursor));

@@ -77,6 +77,31 @@ public final class UnsoundTest {
             runsOf(y, 0, 2).add(asMerged(runsOf(y, 0, 0).remove(0)));
             CHECK.same(count + " of one key by a merging", y.isSound(), true);
         }
+        StratumLedge z = Check.tree('+');
+        for (int level = 0; level < 2; level++) {
+            for (int key = 0; key < 6; key++) {
+                z.put(0, level * 10 + key, 1);
+            }
+            z.flush(0);
+            if (level == 0) {
+                Check.fill(z, 0, 5, 2);
+                Check.mergeAll(z);
+            }
+        }
+        for (int level = 0; level < 2; level++) {
+            CHECK.same("six in level " + level, z.entries(0, level, 0) + " " + z.isSound(), "6 true");
+            addOnceMore(rowsOf(runsOf(z, 0, level).get(0)));
+            CHECK.same("one of them twice, in level " + level, z.isSound(), level == 0);
+        }
+    }
+
+    @SuppressWarnings("unchecked")
+    private static List<Object> rowsOf(Object run) throws ReflectiveOperationException {
+        return (List<Object>) part(run, "rows");
+    }
+
+    private static void addOnceMore(List<Object> rows) {
+        rows.add(rows.get(5));
     }
 
     private static void otherValues() throws ReflectiveOperationException {

@@ -114,7 +114,7 @@ public final class StratumLedge {
         for (int key = first; key <= greatest; key += step) {
             rows.add(new Change(PUT, number, key, key, value));
         }
-        home.levels[level].insert(makeRun(false, rows, new ArrayList<>()), level == 0);
+        home.floor(level).insert(makeRun(false, rows, new ArrayList<>()), level == 0);
         versions++;
         return level;
     }
@@ -138,7 +138,7 @@ public final class StratumLedge {
 
     /** Refuses a write to a family whose level 0 is full, and counts one that is slowed. */
     private void admit(Family home) {
-        int count = home.levels[0].count();
+        int count = home.floor(0).count();
         if (count >= REFUSING_RUNS) {
             throw new IllegalStateException("level 0 has too many runs");
         }
@@ -167,7 +167,7 @@ public final class StratumLedge {
     }
 
     private boolean isFree(Family home, int level, int least, int greatest) {
-        if (home.levels[level].overlaps(least, greatest)) {
+        if (home.floor(level).overlaps(least, greatest)) {
             return false;
         }
         Merging going = merging;
@@ -206,7 +206,7 @@ public final class StratumLedge {
 
     public int release(int snapshot) throws IndexOutOfBoundsException {
         int place = placeOfSnapshot(snapshot);
-        if (place < 0) {
+        if (place < 0 || place >= snapshots.size()) {
             throw new IndexOutOfBoundsException("no such snapshot is held");
         }
         snapshots.remove(place);
@@ -260,7 +260,7 @@ public final class StratumLedge {
 
     public int close(int cursor) throws IndexOutOfBoundsException {
         int place = placeOfCursor(cursor);
-        if (place < 0) {
+        if (place < 0 || place >= cursors.size()) {
             throw new IndexOutOfBoundsException("no such cursor is open");
         }
         cursors.remove(place);
@@ -280,7 +280,7 @@ public final class StratumLedge {
             return writes.size();
         }
         int place = placeOfSnapshot(snapshot);
-        if (place < 0) {
+        if (place < 0 || place >= snapshots.size()) {
             throw new IndexOutOfBoundsException("no such snapshot is held");
         }
         return snapshots.get(place).moment;
@@ -306,7 +306,7 @@ public final class StratumLedge {
 
     private Cursor cursorAt(int id) {
         int place = placeOfCursor(id);
-        if (place < 0) {
+        if (place < 0 || place >= cursors.size()) {
             throw new IndexOutOfBoundsException("no such cursor is open");
         }
         return cursors.get(place);
@@ -333,7 +333,7 @@ public final class StratumLedge {
         finding.begin();
         lookInMemory(home, key, moment);
         for (int level = 0; level < LEVELS; level++) {
-            Level floor = home.levels[level];
+            Level floor = home.floor(level);
             for (int i = 0; i < floor.count() && !finding.isEnded; i++) {
                 Run run = floor.list.get(i);
                 if (run.overlaps(key, key)) {
@@ -439,7 +439,7 @@ public final class StratumLedge {
             throw new IllegalStateException("a merging goes on");
         }
         int level = mostIndebtedLevel(home);
-        if (debtOf(home.levels[level], level) < 1.0f) {
+        if (debtOf(home.floor(level), level) < 1.0f) {
             throw new NoSuchElementException("there is no merging to do");
         }
         merging = new Merging(home, level);
@@ -500,7 +500,7 @@ public final class StratumLedge {
             }
         }
         Run run = makeRun(false, rows, spans);
-        home.levels[0].insert(run, true);
+        home.floor(0).insert(run, true);
         versions++;
         return run.id;
     }
@@ -538,7 +538,7 @@ public final class StratumLedge {
     private static int mostIndebtedLevel(Family home) {
         int most = 0;
         for (int level = 1; level < LEVELS; level++) {
-            if (debtOf(home.levels[level], level) > debtOf(home.levels[most], most)) {
+            if (debtOf(home.floor(level), level) > debtOf(home.floor(most), most)) {
                 most = level;
             }
         }
@@ -613,17 +613,18 @@ public final class StratumLedge {
     private void finish(Merging going) {
         Family home = going.home;
         ArrayList<Change> keptRanges = keptRangesOf(going);
-        home.levels[going.level].removeAll(going.inputs);
-        Level target = home.levels[going.target()];
+        Level source = home.floor(going.level);
+        Level target = home.floor(going.level + 1);
+        source.removeAll(going.inputs);
         target.removeAll(going.inputs);
-        home.mergedUpTo[going.level] = going.sourceGreatest;
+        source.mergedUpTo = going.sourceGreatest;
         int start = 0;
         int from = 0;
         for (int i = 0; i <= going.kept.size() && (i == 0 || start < going.kept.size()); i++) {
             int end = endOfRun(going.kept, start);
             int to = end < going.kept.size() ? going.kept.get(end).from - 1 : KEYS - 1;
             ArrayList<Change> rows = new ArrayList<>();
-            for (int k = start; k < end; k++) {
+            for (int k = start; k < end && k < going.kept.size(); k++) {
                 rows.add(going.kept.get(k));
             }
             ArrayList<Change> spans = partsOf(keptRanges, from, to);
@@ -678,8 +679,12 @@ public final class StratumLedge {
 
     /** The end of the entries that have the key of the one at a start. */
     private static int endOfKey(ArrayList<Change> kept, int start) {
+        if (start < 0 || start >= kept.size()) {
+            return start;
+        }
+        int key = kept.get(start).from;
         int end = start;
-        while (end < kept.size() && kept.get(end).from == kept.get(start).from) {
+        while (end < kept.size() && kept.get(end).from == key) {
             end++;
         }
         return end;
@@ -895,10 +900,10 @@ public final class StratumLedge {
 
     private Level levelAt(int family, int level) {
         Family home = familyAt(family);
-        if (level < 0 || level >= home.levels.length) {
+        if (level < 0 || level >= LEVELS) {
             throw new IndexOutOfBoundsException("no such level");
         }
-        return home.levels[level];
+        return home.floor(level);
     }
 
     private Run runAt(int family, int level, int index) {
@@ -1006,7 +1011,8 @@ public final class StratumLedge {
             if (operator == '+') {
                 return older + newer;
             }
-            return operator == '>' ? Math.max(older, newer) : Math.min(older, newer);
+            boolean isNewerTaken = operator == '>' ? newer > older : newer < older;
+            return isNewerTaken ? newer : older;
         }
     }
 
@@ -1152,6 +1158,8 @@ public final class StratumLedge {
     /** The runs of one level: of level 0 the newest first, of any other by rising bounds. */
     private static final class Level {
         final ArrayList<Run> list = new ArrayList<>();
+        /** The greatest bound of the run that was merged last from this level, -1 without any. */
+        int mergedUpTo = NONE;
 
         int count() {
             return list.size();
@@ -1208,11 +1216,13 @@ public final class StratumLedge {
             return false;
         }
 
+        /** Takes the runs of another one, and how far its mergings had come. */
         void become(Level other) {
             list.clear();
             for (int i = 0; i < other.list.size(); i++) {
                 list.add(other.list.get(i));
             }
+            mergedUpTo = other.mergedUpTo;
         }
 
         boolean isRising() {
@@ -1234,34 +1244,34 @@ public final class StratumLedge {
         }
     }
 
-    /** A family: its operator, its levels, and how far down each level mergings have come. */
+    /** A family: its operator and its levels. */
     private static final class Family {
         final int index;
         final char operator;
         final Level[] levels = new Level[LEVELS];
-        /** The greatest bound of the run that was merged last from each level, -1 without any. */
-        final int[] mergedUpTo = new int[LEVELS];
 
         Family(int index, char operator) {
             this.index = index;
             this.operator = operator;
-            for (int i = 0; i < LEVELS; i++) {
+            for (int i = 0; i < levels.length; i++) {
                 levels[i] = new Level();
-                mergedUpTo[i] = NONE;
             }
         }
 
-        /** Takes the runs of another one, and how far its mergings had come. */
+        /** A level by its number; no number fails, as one beyond the levels gives the nearest of them. */
+        Level floor(int level) {
+            return levels[Math.max(0, Math.min(level, levels.length - 1))];
+        }
+
         void become(Family other) {
-            for (int i = 0; i < LEVELS; i++) {
-                levels[i].become(other.levels[i]);
-                mergedUpTo[i] = other.mergedUpTo[i];
+            for (int i = 0; i < levels.length; i++) {
+                levels[i].become(other.floor(i));
             }
         }
 
         int countRuns() {
             int count = 0;
-            for (int i = 0; i < LEVELS; i++) {
+            for (int i = 0; i < levels.length; i++) {
                 count += levels[i].count();
             }
             return count;
@@ -1269,7 +1279,7 @@ public final class StratumLedge {
 
         int countShared(Family other) {
             int count = 0;
-            for (int i = 0; i < LEVELS; i++) {
+            for (int i = 0; i < levels.length; i++) {
                 for (int k = 0; k < levels[i].count(); k++) {
                     if (other.hasRun(levels[i].list.get(k))) {
                         count++;
@@ -1280,7 +1290,7 @@ public final class StratumLedge {
         }
 
         private boolean hasRun(Run run) {
-            for (int i = 0; i < LEVELS; i++) {
+            for (int i = 0; i < levels.length; i++) {
                 if (levels[i].has(run)) {
                     return true;
                 }
@@ -1290,7 +1300,7 @@ public final class StratumLedge {
 
         /** Whether a run of a level below a given one overlaps the bounds. */
         boolean overlapsBelow(int level, int least, int greatest) {
-            for (int i = 1; i < LEVELS; i++) {
+            for (int i = 1; i < levels.length; i++) {
                 if (i > level && levels[i].overlaps(least, greatest)) {
                     return true;
                 }
@@ -1299,7 +1309,7 @@ public final class StratumLedge {
         }
 
         boolean isInShape() {
-            for (int i = 0; i < LEVELS; i++) {
+            for (int i = 0; i < levels.length; i++) {
                 if (!levels[i].isOfFairSizes() || i > 0 && !levels[i].isRising()) {
                     return false;
                 }
@@ -1353,10 +1363,11 @@ public final class StratumLedge {
         }
 
         private void addSources() {
-            ArrayList<Run> list = home.levels[level].list;
+            Level floor = home.floor(level);
+            ArrayList<Run> list = floor.list;
             int chosen = 0;
             for (int i = list.size() - 1; i >= 0; i--) {
-                if (list.get(i).least > home.mergedUpTo[level]) {
+                if (list.get(i).least > floor.mergedUpTo) {
                     chosen = i;
                 }
             }
@@ -1369,17 +1380,12 @@ public final class StratumLedge {
 
         private void addOverlapped() {
             int least = least();
-            ArrayList<Run> list = home.levels[target()].list;
+            ArrayList<Run> list = home.floor(level + 1).list;
             for (int i = 0; i < list.size(); i++) {
                 if (list.get(i).overlaps(least, sourceGreatest)) {
                     inputs.add(list.get(i));
                 }
             }
-        }
-
-        /** The level to which the runs go; a merging never works on the last one. */
-        int target() {
-            return Math.min(level + 1, LEVELS - 1);
         }
 
         private int least() {
@@ -1400,7 +1406,7 @@ public final class StratumLedge {
 
         /** Whether the inputs stand in the way of bounds in a level of a family. */
         boolean claims(Family other, int floor, int from, int to) {
-            return home == other && (floor == level || floor == target()) && least() <= to && from <= greatest();
+            return home == other && (floor == level || floor == level + 1) && least() <= to && from <= greatest();
         }
 
         /** The key of the next step, or 100 for the last step. */
